@@ -1,0 +1,101 @@
+/** What the tests of the project share: they count wrong answers and end with exit code 1 if there was one. */
+final class Check {
+    private static int wrong = 0;
+    private static int looked = 0;
+
+    private Check() {
+    }
+
+    static void due(String what, Object got, Object want) {
+        looked++;
+        if (!got.equals(want)) {
+            wrong++;
+            System.out.println(what + " answered " + got + ", due is " + want);
+        }
+    }
+
+    /** Runs the pipeline FUSED and looks at the whole result, with the indices just outside it. */
+    static void list(String what, StreamFusion x, int... want) {
+        due(what + ": run(FUSED)", x.run(StreamFusion.FUSED), StreamFusion.OK);
+        due(what + ": outCount()", x.outCount(), want.length);
+        for (int i = 0; i < want.length; i++) {
+            due(what + ": out(" + i + ")", x.out(i), want[i]);
+        }
+        due(what + ": out(-1)", x.out(-1), 0);
+        due(what + ": out(" + want.length + ")", x.out(want.length), 0);
+        due(what + ": cellsUsed()", x.cellsUsed(), 0);
+    }
+
+    /** Runs the pipeline MATERIAL on an object whose heap is large enough. */
+    static void cost(String what, StreamFusion x, int want) {
+        due(what + ": run(MATERIAL)", x.run(StreamFusion.MATERIAL), StreamFusion.OK);
+        due(what + ": cellsUsed()", x.cellsUsed(), want);
+    }
+
+    /** The shape of the stack from the bottom, a fragment as size/concat count/o for open or c for closed. */
+    static void stack(String what, StreamFusion x, String... want) {
+        due(what + ": stackDepth()", x.stackDepth(), want.length);
+        for (int i = 0; i < want.length; i++) {
+            String[] parts = want[i].split("/");
+            int due = 16 * Integer.parseInt(parts[0]) + 2 * Integer.parseInt(parts[1]) + (parts[2].equals("o") ? 1 : 0);
+            due(what + ": fragment(" + i + ")", x.fragment(i), due);
+        }
+        due(what + ": fragment(" + want.length + ")", x.fragment(want.length), -1);
+        due(what + ": fragment(-1)", x.fragment(-1), -1);
+    }
+
+    /** All that the getters tell of an object. */
+    static String state(StreamFusion x) {
+        StringBuilder told = new StringBuilder();
+        for (int i = -1; i <= StreamFusion.MAX_NODES; i++) {
+            told.append(x.fragment(i)).append(' ');
+        }
+        told.append("depth ").append(x.stackDepth()).append(" cells ").append(x.cellsUsed());
+        told.append(" count ").append(x.outCount()).append(':');
+        for (int i = -1; i <= StreamFusion.OUT_CAP; i++) {
+            told.append(' ').append(x.out(i));
+        }
+        return told.toString();
+    }
+
+    /** Says that a call answered the refusal that is due and changed nothing since the state before it. */
+    static void refused(String what, int got, int want, StreamFusion x, String before) {
+        due(what, got, want);
+        due("the state after " + what, state(x), before);
+    }
+
+    /** Pushes closed sources of one node each until the node count is 16. */
+    static void fillUp(StreamFusion x, int nodesSoFar) {
+        for (int n = nodesSoFar; n < StreamFusion.MAX_NODES; n++) {
+            due("range(" + n + ", 1) as node " + (n + 1), x.range(n, 1), StreamFusion.OK);
+        }
+    }
+
+    /** Builds a pipeline that costs the given number of cells, from 7 to 500. */
+    static void buildCost(StreamFusion x, int cost) {
+        x.range(0, 6);
+        int step = 6;
+        int rest = cost - 6;
+        if (cost > 78) {
+            x.range(0, 6);
+            x.concatMap();
+            step = 36;
+            rest = cost - 78;
+        }
+        for (; rest > step; rest -= step) {
+            x.map(StreamFusion.F_ADD, 1);
+        }
+        x.take(rest);
+    }
+
+    static boolean anyWrong() {
+        return wrong != 0;
+    }
+
+    static void end() {
+        System.out.println(wrong == 0 ? looked + " answers are as due" : wrong + " answers are not as due");
+        if (wrong != 0 || looked == 0) {
+            System.exit(1);
+        }
+    }
+}

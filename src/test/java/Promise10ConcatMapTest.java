@@ -1,0 +1,202 @@
+/** Promise 10: concatMap. */
+final class Promise10ConcatMapTest {
+    public static void main(String[] args) {
+        lists();
+        bindings();
+        order();
+        limits();
+        longest();
+        Check.end();
+    }
+
+    private static void lists() {
+        StreamFusion x = new StreamFusion(256);
+        x.range(1, 4);
+        x.inner(10, 2);
+        Check.due("concatMap()", x.concatMap(), StreamFusion.OK);
+        Check.stack("of range and inner", x, "3/1/c");
+        Check.list("of range and inner", x, 11, 12, 13, 14);
+        Check.cost("of range and inner", x, 4 + 4 + 4);
+
+        StreamFusion closed = new StreamFusion(256);
+        closed.range(1, 3);
+        closed.range(7, 2);
+        closed.concatMap();
+        Check.list("of a closed inner part", closed, 7, 8, 7, 8, 7, 8);
+        Check.cost("of a closed inner part", closed, 3 + 6 + 6);
+
+        StreamFusion noOuter = new StreamFusion(256);
+        noOuter.range(1, 0);
+        noOuter.range(7, 2);
+        noOuter.map(StreamFusion.F_ADD, 1);
+        noOuter.concatMap();
+        Check.list("of an empty outer list", noOuter);
+        Check.cost("of an empty outer list", noOuter, 0);
+
+        StreamFusion noInner = new StreamFusion(256);
+        noInner.range(1, 5);
+        noInner.range(7, 0);
+        noInner.concatMap();
+        Check.list("of empty inner lists", noInner);
+        Check.cost("of empty inner lists", noInner, 5);
+
+        StreamFusion some = new StreamFusion(256);
+        some.range(-3, 6);
+        some.inner(0, 2);
+        some.concatMap();
+        Check.list("of inner lists with gaps", some, -2, -1, 0, 1, 2, 3);
+    }
+
+    private static void bindings() {
+        StreamFusion free = new StreamFusion(256);
+        free.range(1, 3);
+        free.inner(0, 3);
+        free.inner(0, 3);
+        Check.due("concatMap() of two free sources", free.concatMap(), StreamFusion.OK);
+        Check.stack("the source in O stays free", free, "1/0/c", "3/1/o");
+        Check.due("the outer concatMap()", free.concatMap(), StreamFusion.OK);
+        Check.stack("all is bound", free, "5/2/c");
+        Check.list("O's source to the outer, I's to its own", free, 1, 2, 3, 3, 4, 5, 3, 4, 5, 5);
+        Check.cost("O's source to the outer, I's to its own", free, 3 + 6 + 10 + 10 + 10);
+
+        StreamFusion bound = new StreamFusion(256);
+        bound.range(5, 2);
+        bound.range(1, 2);
+        bound.inner(0, 6);
+        bound.concatMap();
+        bound.inner(0, 6);
+        bound.zip(StreamFusion.B_MUL);
+        Check.stack("a bound source and a free one", bound, "1/0/c", "5/1/o");
+        bound.concatMap();
+        Check.stack("both bound", bound, "7/2/c");
+        Check.list("the bound source keeps its binding", bound, 5, 12, 21, 6, 14, 24);
+
+        StreamFusion outer = new StreamFusion(256);
+        outer.range(1, 2);
+        outer.inner(1, 4);
+        outer.map(StreamFusion.F_MUL, 2);
+        outer.range(0, 2);
+        outer.concatMap();
+        Check.stack("open for O alone", outer, "1/0/c", "4/1/o");
+        outer.scan(StreamFusion.B_ADD, 0);
+        outer.concatMap();
+        Check.list("a closed inner part under an open O", outer, 0, 1, 0, 1, 1, 2);
+
+        StreamFusion left = new StreamFusion(256);
+        left.range(1, 3);
+        left.inner(0, 6);
+        left.concatMap();
+        left.inner(10, 1);
+        left.concatMap();
+        Check.stack("concatMap of a concatMap", left, "5/2/c");
+        Check.list("concatMap of a concatMap", left, 11, 13, 13, 15);
+        Check.cost("concatMap of a concatMap", left, 3 + 6 + 6 + 4 + 4);
+
+        StreamFusion below = new StreamFusion(256);
+        below.inner(0, 1);
+        below.take(1);
+        below.range(0, 2);
+        below.inner(0, 1);
+        below.concatMap();
+        Check.stack("the fragment below O", below, "2/0/o", "3/1/c");
+        below.clear();
+        below.inner(0, 1);
+        below.range(0, 2);
+        below.concatMap();
+        Check.stack("open O and closed I", below, "3/1/o");
+    }
+
+    private static void order() {
+        StreamFusion x = new StreamFusion(256);
+        Check.refused("concatMap() on nothing", x.concatMap(), StreamFusion.UNDERFLOW, x, Check.state(x));
+        x.range(0, 2);
+        Check.refused("concatMap() of one", x.concatMap(), StreamFusion.UNDERFLOW, x, Check.state(x));
+        for (int i = 0; i < 15; i++) {
+            x.take(2);
+        }
+        Check.refused("concatMap() of one full fragment", x.concatMap(), StreamFusion.UNDERFLOW, x, Check.state(x));
+
+        StreamFusion y = new StreamFusion(256);
+        counted(y, 1);
+        counted(y, 1);
+        Check.refused("concatMap() of 1 and 1", y.concatMap(), StreamFusion.LIMIT, y, Check.state(y));
+        for (int i = 0; i < 10; i++) {
+            y.take(1);
+        }
+        Check.stack("16 nodes", y, "3/1/c", "13/1/c");
+        Check.refused("concatMap() of 1 and 1 when full", y.concatMap(), StreamFusion.FULL, y, Check.state(y));
+
+        StreamFusion single = new StreamFusion(256);
+        counted(single, 2);
+        Check.refused("concatMap() of one of count 2", single.concatMap(), StreamFusion.UNDERFLOW, single, Check.state(single));
+    }
+
+    /** Every pair of concat counts from 0 to 3. */
+    private static void limits() {
+        for (int o = 0; o <= 3; o++) {
+            for (int i = 0; o + i <= 4 && i <= 3; i++) {
+                StreamFusion x = new StreamFusion(256);
+                counted(x, o);
+                counted(x, i);
+                String before = Check.state(x);
+                String call = "concatMap() of counts " + o + " and " + i;
+                if (o + i >= 2) {
+                    Check.refused(call, x.concatMap(), StreamFusion.LIMIT, x, before);
+                } else {
+                    int size = (x.fragment(0) / 16) + (x.fragment(1) / 16) + 1;
+                    Check.due(call, x.concatMap(), StreamFusion.OK);
+                    Check.stack(call, x, size + "/" + (o + i + 1) + "/c");
+                }
+            }
+        }
+
+        StreamFusion z = new StreamFusion(256);
+        counted(z, 2);
+        z.range(0, 1);
+        z.range(0, 1);
+        Check.due("the two counts alone matter", z.concatMap(), StreamFusion.OK);
+        Check.stack("the two counts alone matter", z, "5/2/c", "3/1/c");
+        Check.refused("counts 2 and 1", z.concatMap(), StreamFusion.LIMIT, z, Check.state(z));
+    }
+
+    /** Pushes a closed fragment with the given concat count. */
+    private static void counted(StreamFusion x, int concats) {
+        x.range(1, 2);
+        for (int i = 0; i < concats && i < 2; i++) {
+            x.inner(0, 2);
+            Check.due("concatMap() number " + i, x.concatMap(), StreamFusion.OK);
+        }
+        if (concats == 3) {
+            counted(x, 1);
+            Check.due("zip", x.zip(StreamFusion.B_ADD), StreamFusion.OK);
+        }
+    }
+
+    private static void longest() {
+        int[] want = new int[216];
+        for (int i = 0; i < want.length; i++) {
+            want[i] = i % 6 + 3;
+        }
+        StreamFusion right = new StreamFusion(256);
+        right.range(1, 6);
+        right.range(2, 6);
+        right.range(3, 6);
+        right.concatMap();
+        right.concatMap();
+        Check.list("216 values, nested on the right", right, want);
+        Check.due("their cost", right.run(StreamFusion.MATERIAL), StreamFusion.HEAP_FULL);
+
+        StreamFusion left = new StreamFusion(256);
+        left.range(1, 6);
+        left.range(2, 6);
+        left.concatMap();
+        left.range(3, 6);
+        left.concatMap();
+        Check.list("216 values, nested on the left", left, want);
+        for (int i = 0; i < 11; i++) {
+            left.map(StreamFusion.F_ADD, 0);
+        }
+        Check.stack("216 values in 16 nodes", left, "16/2/c");
+        Check.list("216 values through 16 nodes", left, want);
+    }
+}
