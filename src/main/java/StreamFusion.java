@@ -50,7 +50,7 @@ public final class StreamFusion {
 
     private static final int MIN_HEAP = 8;
     private static final int MAX_HEAP = 256;
-    private static final int MAX_CONCATS = 2;
+    private static final int CONCAT_LIMIT = 2;
 
     private static final int RANGE = 0;
     private static final int INNER = 1;
@@ -170,7 +170,7 @@ public final class StreamFusion {
         if (nodeCount == MAX_NODES) {
             return FULL;
         }
-        if (concats[depth - 2] + concats[depth - 1] >= MAX_CONCATS) {
+        if (concats[depth - 2] + concats[depth - 1] >= CONCAT_LIMIT) {
             return LIMIT;
         }
         bindTop();
@@ -242,7 +242,6 @@ public final class StreamFusion {
         kinds[nodeCount] = kind;
         ops[nodeCount] = op;
         args[nodeCount] = arg;
-        lowers[nodeCount] = WHOLE;
         scopes[nodeCount] = WHOLE;
     }
 
@@ -409,10 +408,10 @@ public final class StreamFusion {
     // The inner part has one list for each value of the outer row, in the same order, so the
     // lists of those values that make up outer list e already stand one behind the other.
     private void addConcatenated(int node, int e) {
-        int outer = lowers[node] * OUT_CAP;
-        int inner = (node - 1) * OUT_CAP;
-        int from = starts[inner + starts[outer + e]];
-        int end = starts[inner + starts[outer + e + 1]];
+        int outerRow = lowers[node] * OUT_CAP;
+        int innerRow = (node - 1) * OUT_CAP;
+        int from = starts[innerRow + starts[outerRow + e]];
+        int end = starts[innerRow + starts[outerRow + e + 1]];
         addSlice(node, from, end);
     }
 

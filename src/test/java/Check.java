@@ -1,3 +1,5 @@
+import java.util.function.IntSupplier;
+
 /** What the tests of the project share: they count wrong answers and end with exit code 1 if there was one. */
 final class Check {
     private static int wrong = 0;
@@ -58,9 +60,10 @@ final class Check {
         return told.toString();
     }
 
-    /** Says that a call answered the refusal that is due and changed nothing since the state before it. */
-    static void refused(String what, int got, int want, StreamFusion x, String before) {
-        due(what, got, want);
+    /** Makes a call and says whether it answered the refusal that is due and changed nothing. */
+    static void refused(String what, StreamFusion x, int want, IntSupplier call) {
+        String before = state(x);
+        due(what, call.getAsInt(), want);
         due("the state after " + what, state(x), before);
     }
 

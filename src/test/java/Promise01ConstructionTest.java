@@ -72,15 +72,14 @@ final class Promise01ConstructionTest {
         x.map(StreamFusion.F_ADD, 1);
         x.inner(0, 2);
         Check.fillUp(x, 3);
-        String before = Check.state(x);
-        Check.refused("range when full", x.range(0, 1), StreamFusion.FULL, x, before);
-        Check.refused("inner when full", x.inner(0, 1), StreamFusion.FULL, x, before);
-        Check.refused("map when full", x.map(0, 1), StreamFusion.FULL, x, before);
-        Check.refused("filter when full", x.filter(0, 1), StreamFusion.FULL, x, before);
-        Check.refused("take when full", x.take(1), StreamFusion.FULL, x, before);
-        Check.refused("drop when full", x.drop(1), StreamFusion.FULL, x, before);
-        Check.refused("scan when full", x.scan(0, 1), StreamFusion.FULL, x, before);
-        Check.refused("zip when full", x.zip(0), StreamFusion.FULL, x, before);
-        Check.refused("concatMap when full", x.concatMap(), StreamFusion.FULL, x, before);
+        Check.refused("range when full", x, StreamFusion.FULL, () -> x.range(0, 1));
+        Check.refused("inner when full", x, StreamFusion.FULL, () -> x.inner(0, 1));
+        Check.refused("map when full", x, StreamFusion.FULL, () -> x.map(0, 1));
+        Check.refused("filter when full", x, StreamFusion.FULL, () -> x.filter(0, 1));
+        Check.refused("take when full", x, StreamFusion.FULL, () -> x.take(1));
+        Check.refused("drop when full", x, StreamFusion.FULL, () -> x.drop(1));
+        Check.refused("scan when full", x, StreamFusion.FULL, () -> x.scan(0, 1));
+        Check.refused("zip when full", x, StreamFusion.FULL, () -> x.zip(0));
+        Check.refused("concatMap when full", x, StreamFusion.FULL, () -> x.concatMap());
     }
 }

@@ -53,8 +53,7 @@ final class Promise03InnerTest {
         Check.due("inner", x.inner(9, 9), StreamFusion.OK);
         Check.stack("inner on two fragments", x, "2/0/c", "3/0/o", "1/0/o");
         Check.fillUp(x, 6);
-        String before = Check.state(x);
-        Check.refused("inner as node 17", x.inner(0, 0), StreamFusion.FULL, x, before);
-        Check.refused("inner as node 17", x.inner(0, 99), StreamFusion.FULL, x, before);
+        Check.refused("inner as node 17", x, StreamFusion.FULL, () -> x.inner(0, 0));
+        Check.refused("inner as node 17", x, StreamFusion.FULL, () -> x.inner(0, 99));
     }
 }

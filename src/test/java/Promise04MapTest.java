@@ -5,8 +5,8 @@ final class Promise04MapTest {
 
     public static void main(String[] args) {
         table();
-        order();
-        shape();
+        TransformerChecks.opsInOrder("map", 8, (x, op) -> x.map(op, 0));
+        TransformerChecks.shape("map", x -> x.map(0, 1));
         Check.end();
     }
 
@@ -44,38 +44,5 @@ final class Promise04MapTest {
         Check.stack(call, x, "2/0/c");
         Check.list(call, x, want);
         Check.cost(call, x, 6);
-    }
-
-    private static void order() {
-        StreamFusion x = new StreamFusion(256);
-        String fresh = Check.state(x);
-        for (int op : new int[] {MIN, -1, 9, 10, MAX}) {
-            Check.refused("map(" + op + ", 0) on nothing", x.map(op, 0), StreamFusion.BAD_OP, x, fresh);
-        }
-        for (int op = 0; op <= 8; op++) {
-            Check.refused("map(" + op + ", 0) on nothing", x.map(op, 0), StreamFusion.UNDERFLOW, x, fresh);
-        }
-        Check.fillUp(x, 0);
-        String full = Check.state(x);
-        Check.refused("map(9, 0) when full", x.map(9, 0), StreamFusion.BAD_OP, x, full);
-        Check.refused("map(8, 0) when full", x.map(8, 0), StreamFusion.FULL, x, full);
-    }
-
-    private static void shape() {
-        StreamFusion x = new StreamFusion(256);
-        x.inner(0, 2);
-        x.range(0, 2);
-        x.inner(0, 2);
-        Check.due("map of an open fragment", x.map(StreamFusion.F_ADD, 1), StreamFusion.OK);
-        Check.stack("map of an open fragment", x, "1/0/o", "1/0/c", "2/0/o");
-        x.concatMap();
-        Check.due("map of a concatMap", x.map(StreamFusion.F_ADD, 10), StreamFusion.OK);
-        Check.stack("map of a concatMap", x, "1/0/o", "5/1/c");
-
-        StreamFusion e = new StreamFusion(256);
-        e.range(4, 0);
-        e.map(StreamFusion.F_ADD, 1);
-        Check.list("map of nothing", e);
-        Check.cost("map of nothing", e, 0);
     }
 }

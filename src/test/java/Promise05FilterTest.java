@@ -5,8 +5,9 @@ final class Promise05FilterTest {
 
     public static void main(String[] args) {
         table();
-        order();
-        shape();
+        TransformerChecks.opsInOrder("filter", 6, (x, op) -> x.filter(op, 0));
+        TransformerChecks.shape("filter", x -> x.filter(0, 1));
+        inner();
         Check.end();
     }
 
@@ -43,32 +44,7 @@ final class Promise05FilterTest {
         Check.cost(call, x, 6 + want.length);
     }
 
-    private static void order() {
-        StreamFusion x = new StreamFusion(256);
-        String fresh = Check.state(x);
-        for (int op : new int[] {MIN, -1, 7, 8, MAX}) {
-            Check.refused("filter(" + op + ", 0) on nothing", x.filter(op, 0), StreamFusion.BAD_OP, x, fresh);
-        }
-        for (int op = 0; op <= 6; op++) {
-            Check.refused("filter(" + op + ", 0) on nothing", x.filter(op, 0), StreamFusion.UNDERFLOW, x, fresh);
-        }
-        Check.fillUp(x, 0);
-        String full = Check.state(x);
-        Check.refused("filter(7, 0) when full", x.filter(7, 0), StreamFusion.BAD_OP, x, full);
-        Check.refused("filter(6, 0) when full", x.filter(6, 0), StreamFusion.FULL, x, full);
-    }
-
-    private static void shape() {
-        StreamFusion x = new StreamFusion(256);
-        x.inner(0, 2);
-        x.range(1, 4);
-        x.inner(0, 4);
-        Check.due("filter of an open fragment", x.filter(StreamFusion.P_ODD, 0), StreamFusion.OK);
-        Check.stack("filter of an open fragment", x, "1/0/o", "1/0/c", "2/0/o");
-        x.concatMap();
-        Check.due("filter of a concatMap", x.filter(StreamFusion.P_NE, 3), StreamFusion.OK);
-        Check.stack("filter of a concatMap", x, "1/0/o", "5/1/c");
-
+    private static void inner() {
         StreamFusion y = new StreamFusion(256);
         y.range(1, 4);
         y.inner(0, 4);

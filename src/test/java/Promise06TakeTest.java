@@ -12,8 +12,9 @@ final class Promise06TakeTest {
         values(4, 5, 6, 7, 8);
         values(5, 5, 6, 7, 8);
         values(MAX, 5, 6, 7, 8);
-        order();
-        shape();
+        TransformerChecks.refusalsInOrder("take(1)", x -> x.take(1));
+        TransformerChecks.refusalsInOrder("take(-1)", x -> x.take(-1));
+        TransformerChecks.shape("take", x -> x.take(1));
         inner();
         Check.end();
     }
@@ -29,29 +30,6 @@ final class Promise06TakeTest {
         Check.cost(call, x, 4 + want.length);
     }
 
-    private static void order() {
-        StreamFusion x = new StreamFusion(256);
-        String fresh = Check.state(x);
-        Check.refused("take(1) on nothing", x.take(1), StreamFusion.UNDERFLOW, x, fresh);
-        Check.refused("take(-1) on nothing", x.take(-1), StreamFusion.UNDERFLOW, x, fresh);
-        Check.fillUp(x, 0);
-        String full = Check.state(x);
-        Check.refused("take(1) when full", x.take(1), StreamFusion.FULL, x, full);
-        Check.refused("take(-1) when full", x.take(-1), StreamFusion.FULL, x, full);
-    }
-
-    private static void shape() {
-        StreamFusion x = new StreamFusion(256);
-        x.inner(0, 2);
-        x.range(0, 2);
-        x.inner(0, 2);
-        Check.due("take of an open fragment", x.take(1), StreamFusion.OK);
-        Check.stack("take of an open fragment", x, "1/0/o", "1/0/c", "2/0/o");
-        x.concatMap();
-        Check.due("take of a concatMap", x.take(1), StreamFusion.OK);
-        Check.stack("take of a concatMap", x, "1/0/o", "5/1/c");
-    }
-
     /** Each list of an inner part is cut for itself. */
     private static void inner() {
         StreamFusion x = new StreamFusion(256);
@@ -64,5 +42,13 @@ final class Promise06TakeTest {
         x.take(3);
         Check.list("take of a concatMap", x, 11, 12, 13);
         Check.cost("take of a concatMap", x, 31);
+
+        StreamFusion y = new StreamFusion(256);
+        y.range(3, 4);
+        y.inner(10, 3);
+        y.take(2);
+        y.concatMap();
+        Check.list("take of short lists behind a long one", y, 13, 14, 15, 16, 17);
+        Check.cost("take of short lists behind a long one", y, 4 + 6 + 5 + 5);
     }
 }

@@ -12,8 +12,9 @@ final class Promise07DropTest {
         values(4);
         values(5);
         values(MAX);
-        order();
-        shape();
+        TransformerChecks.refusalsInOrder("drop(1)", x -> x.drop(1));
+        TransformerChecks.refusalsInOrder("drop(-1)", x -> x.drop(-1));
+        TransformerChecks.shape("drop", x -> x.drop(1));
         inner();
         Check.end();
     }
@@ -29,29 +30,6 @@ final class Promise07DropTest {
         Check.cost(call, x, 4 + want.length);
     }
 
-    private static void order() {
-        StreamFusion x = new StreamFusion(256);
-        String fresh = Check.state(x);
-        Check.refused("drop(1) on nothing", x.drop(1), StreamFusion.UNDERFLOW, x, fresh);
-        Check.refused("drop(-1) on nothing", x.drop(-1), StreamFusion.UNDERFLOW, x, fresh);
-        Check.fillUp(x, 0);
-        String full = Check.state(x);
-        Check.refused("drop(1) when full", x.drop(1), StreamFusion.FULL, x, full);
-        Check.refused("drop(-1) when full", x.drop(-1), StreamFusion.FULL, x, full);
-    }
-
-    private static void shape() {
-        StreamFusion x = new StreamFusion(256);
-        x.inner(0, 2);
-        x.range(0, 2);
-        x.inner(0, 2);
-        Check.due("drop of an open fragment", x.drop(1), StreamFusion.OK);
-        Check.stack("drop of an open fragment", x, "1/0/o", "1/0/c", "2/0/o");
-        x.concatMap();
-        Check.due("drop of a concatMap", x.drop(1), StreamFusion.OK);
-        Check.stack("drop of a concatMap", x, "1/0/o", "5/1/c");
-    }
-
     /** Each list of an inner part is cut for itself. */
     private static void inner() {
         StreamFusion x = new StreamFusion(256);
@@ -64,5 +42,13 @@ final class Promise07DropTest {
         x.drop(1);
         Check.list("drop of a concatMap", x, 16, 17);
         Check.cost("drop of a concatMap", x, 22);
+
+        StreamFusion y = new StreamFusion(256);
+        y.range(3, 4);
+        y.inner(10, 3);
+        y.drop(2);
+        y.concatMap();
+        Check.list("drop of short lists behind a long one", y, 15);
+        Check.cost("drop of short lists behind a long one", y, 4 + 6 + 1 + 1);
     }
 }

@@ -5,8 +5,8 @@ final class Promise08ScanTest {
 
     public static void main(String[] args) {
         table();
-        order();
-        shape();
+        TransformerChecks.opsInOrder("scan", 6, (x, op) -> x.scan(op, 0));
+        TransformerChecks.shape("scan", x -> x.scan(0, 1));
         inner();
         Check.end();
     }
@@ -37,33 +37,6 @@ final class Promise08ScanTest {
         Check.cost(call, x, 8);
     }
 
-    private static void order() {
-        StreamFusion x = new StreamFusion(256);
-        String fresh = Check.state(x);
-        for (int op : new int[] {MIN, -1, 7, 8, MAX}) {
-            Check.refused("scan(" + op + ", 0) on nothing", x.scan(op, 0), StreamFusion.BAD_OP, x, fresh);
-        }
-        for (int op = 0; op <= 6; op++) {
-            Check.refused("scan(" + op + ", 0) on nothing", x.scan(op, 0), StreamFusion.UNDERFLOW, x, fresh);
-        }
-        Check.fillUp(x, 0);
-        String full = Check.state(x);
-        Check.refused("scan(7, 0) when full", x.scan(7, 0), StreamFusion.BAD_OP, x, full);
-        Check.refused("scan(6, 0) when full", x.scan(6, 0), StreamFusion.FULL, x, full);
-    }
-
-    private static void shape() {
-        StreamFusion x = new StreamFusion(256);
-        x.inner(0, 2);
-        x.range(0, 2);
-        x.inner(0, 2);
-        Check.due("scan of an open fragment", x.scan(StreamFusion.B_ADD, 1), StreamFusion.OK);
-        Check.stack("scan of an open fragment", x, "1/0/o", "1/0/c", "2/0/o");
-        x.concatMap();
-        Check.due("scan of a concatMap", x.scan(StreamFusion.B_ADD, 1), StreamFusion.OK);
-        Check.stack("scan of a concatMap", x, "1/0/o", "5/1/c");
-    }
-
     /** In an inner part each list begins with init again; the list of a concatMap is scanned as one. */
     private static void inner() {
         StreamFusion x = new StreamFusion(256);
@@ -74,10 +47,5 @@ final class Promise08ScanTest {
         Check.list("scan in an inner part", x, 101, 102, 105, 103, 107, 112);
         x.scan(StreamFusion.B_SUB, 0);
         Check.list("scan of a concatMap", x, -101, -203, -308, -411, -518, -630);
-
-        StreamFusion e = new StreamFusion(256);
-        e.range(1, 0);
-        e.scan(StreamFusion.B_ADD, 100);
-        Check.list("scan of nothing", e);
     }
 }

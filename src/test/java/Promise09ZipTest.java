@@ -58,28 +58,25 @@ final class Promise09ZipTest {
     private static void order() {
         StreamFusion x = new StreamFusion(256);
         for (int depth = 0; depth < 2; depth++) {
-            String before = Check.state(x);
-            Check.refused("zip(-1) at depth " + depth, x.zip(-1), StreamFusion.BAD_OP, x, before);
-            Check.refused("zip(7) at depth " + depth, x.zip(7), StreamFusion.BAD_OP, x, before);
-            Check.refused("zip(MIN) at depth " + depth, x.zip(MIN), StreamFusion.BAD_OP, x, before);
-            Check.refused("zip(MAX) at depth " + depth, x.zip(MAX), StreamFusion.BAD_OP, x, before);
-            for (int op = 0; op <= 6; op++) {
-                Check.refused("zip(" + op + ") at depth " + depth, x.zip(op), StreamFusion.UNDERFLOW, x, before);
+            Check.refused("zip(-1) at depth " + depth, x, StreamFusion.BAD_OP, () -> x.zip(-1));
+            Check.refused("zip(7) at depth " + depth, x, StreamFusion.BAD_OP, () -> x.zip(7));
+            Check.refused("zip(MIN) at depth " + depth, x, StreamFusion.BAD_OP, () -> x.zip(MIN));
+            Check.refused("zip(MAX) at depth " + depth, x, StreamFusion.BAD_OP, () -> x.zip(MAX));
+            for (int op : new int[] {0, 1, 2, 3, 4, 5, 6}) {
+                Check.refused("zip(" + op + ") at depth " + depth, x, StreamFusion.UNDERFLOW, () -> x.zip(op));
             }
             x.range(0, 1);
         }
         Check.fillUp(x, 2);
-        String full = Check.state(x);
-        Check.refused("zip(7) when full", x.zip(7), StreamFusion.BAD_OP, x, full);
-        Check.refused("zip(6) when full", x.zip(6), StreamFusion.FULL, x, full);
+        Check.refused("zip(7) when full", x, StreamFusion.BAD_OP, () -> x.zip(7));
+        Check.refused("zip(6) when full", x, StreamFusion.FULL, () -> x.zip(6));
 
         StreamFusion one = new StreamFusion(256);
         one.range(0, 1);
         for (int i = 0; i < 15; i++) {
             one.map(StreamFusion.F_ADD, 1);
         }
-        String oneFull = Check.state(one);
-        Check.refused("zip(0) of one full fragment", one.zip(0), StreamFusion.UNDERFLOW, one, oneFull);
+        Check.refused("zip(0) of one full fragment", one, StreamFusion.UNDERFLOW, () -> one.zip(0));
         Check.list("the full fragment", one, 15);
     }
 

@@ -108,27 +108,27 @@ final class Promise10ConcatMapTest {
 
     private static void order() {
         StreamFusion x = new StreamFusion(256);
-        Check.refused("concatMap() on nothing", x.concatMap(), StreamFusion.UNDERFLOW, x, Check.state(x));
+        Check.refused("concatMap() on nothing", x, StreamFusion.UNDERFLOW, () -> x.concatMap());
         x.range(0, 2);
-        Check.refused("concatMap() of one", x.concatMap(), StreamFusion.UNDERFLOW, x, Check.state(x));
+        Check.refused("concatMap() of one", x, StreamFusion.UNDERFLOW, () -> x.concatMap());
         for (int i = 0; i < 15; i++) {
             x.take(2);
         }
-        Check.refused("concatMap() of one full fragment", x.concatMap(), StreamFusion.UNDERFLOW, x, Check.state(x));
+        Check.refused("concatMap() of one full fragment", x, StreamFusion.UNDERFLOW, () -> x.concatMap());
 
         StreamFusion y = new StreamFusion(256);
         counted(y, 1);
         counted(y, 1);
-        Check.refused("concatMap() of 1 and 1", y.concatMap(), StreamFusion.LIMIT, y, Check.state(y));
+        Check.refused("concatMap() of 1 and 1", y, StreamFusion.LIMIT, () -> y.concatMap());
         for (int i = 0; i < 10; i++) {
             y.take(1);
         }
         Check.stack("16 nodes", y, "3/1/c", "13/1/c");
-        Check.refused("concatMap() of 1 and 1 when full", y.concatMap(), StreamFusion.FULL, y, Check.state(y));
+        Check.refused("concatMap() of 1 and 1 when full", y, StreamFusion.FULL, () -> y.concatMap());
 
         StreamFusion single = new StreamFusion(256);
         counted(single, 2);
-        Check.refused("concatMap() of one of count 2", single.concatMap(), StreamFusion.UNDERFLOW, single, Check.state(single));
+        Check.refused("concatMap() of one of count 2", single, StreamFusion.UNDERFLOW, () -> single.concatMap());
     }
 
     /** Every pair of concat counts from 0 to 3. */
@@ -138,10 +138,9 @@ final class Promise10ConcatMapTest {
                 StreamFusion x = new StreamFusion(256);
                 counted(x, o);
                 counted(x, i);
-                String before = Check.state(x);
                 String call = "concatMap() of counts " + o + " and " + i;
                 if (o + i >= 2) {
-                    Check.refused(call, x.concatMap(), StreamFusion.LIMIT, x, before);
+                    Check.refused(call, x, StreamFusion.LIMIT, () -> x.concatMap());
                 } else {
                     int size = (x.fragment(0) / 16) + (x.fragment(1) / 16) + 1;
                     Check.due(call, x.concatMap(), StreamFusion.OK);
@@ -156,7 +155,7 @@ final class Promise10ConcatMapTest {
         z.range(0, 1);
         Check.due("the two counts alone matter", z.concatMap(), StreamFusion.OK);
         Check.stack("the two counts alone matter", z, "5/2/c", "3/1/c");
-        Check.refused("counts 2 and 1", z.concatMap(), StreamFusion.LIMIT, z, Check.state(z));
+        Check.refused("counts 2 and 1", z, StreamFusion.LIMIT, () -> z.concatMap());
     }
 
     /** Pushes a closed fragment with the given concat count. */

@@ -33,16 +33,14 @@ final class Promise12RunTest {
     }
 
     private static void refusedInBothModes(String what, StreamFusion x) {
-        String before = Check.state(x);
-        Check.refused("run(FUSED) of " + what, x.run(StreamFusion.FUSED), StreamFusion.BAD_SHAPE, x, before);
-        Check.refused("run(MATERIAL) of " + what, x.run(StreamFusion.MATERIAL), StreamFusion.BAD_SHAPE, x, before);
+        Check.refused("run(FUSED) of " + what, x, StreamFusion.BAD_SHAPE, () -> x.run(StreamFusion.FUSED));
+        Check.refused("run(MATERIAL) of " + what, x, StreamFusion.BAD_SHAPE, () -> x.run(StreamFusion.MATERIAL));
         badModes(what, x);
     }
 
     private static void badModes(String what, StreamFusion x) {
-        String before = Check.state(x);
         for (int mode : new int[] {Integer.MIN_VALUE, -1, 2, 3, 7, Integer.MAX_VALUE}) {
-            Check.refused("run(" + mode + ") of " + what, x.run(mode), StreamFusion.BAD_MODE, x, before);
+            Check.refused("run(" + mode + ") of " + what, x, StreamFusion.BAD_MODE, () -> x.run(mode));
         }
     }
 
@@ -86,8 +84,7 @@ final class Promise12RunTest {
         Check.list("FUSED after HEAP_FULL", x, 5);
         Check.due("run(MATERIAL) after FUSED", x.run(StreamFusion.MATERIAL), StreamFusion.HEAP_FULL);
         empty("HEAP_FULL after FUSED", x);
-        String before = Check.state(x);
-        Check.refused("run(2) after HEAP_FULL", x.run(2), StreamFusion.BAD_MODE, x, before);
+        Check.refused("run(2) after HEAP_FULL", x, StreamFusion.BAD_MODE, () -> x.run(2));
     }
 
     private static void empty(String what, StreamFusion x) {
