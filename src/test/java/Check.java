@@ -34,6 +34,31 @@ final class Check {
         due(what + ": cellsUsed()", x.cellsUsed(), want);
     }
 
+    /** Both modes, on an object whose heap is large enough: the same values, and the cost from MATERIAL alone. */
+    static void both(String what, StreamFusion x, int cost, int... want) {
+        list(what, x, want);
+        cost(what, x, cost);
+        due(what + ": outCount() of MATERIAL", x.outCount(), want.length);
+        for (int i = 0; i < want.length; i++) {
+            due(what + ": out(" + i + ") of MATERIAL", x.out(i), want[i]);
+        }
+        due(what + ": out(" + want.length + ") of MATERIAL", x.out(want.length), 0);
+    }
+
+    /** Runs the pipeline MATERIAL on an object whose heap is too small. */
+    static void heapFull(String what, StreamFusion x) {
+        due(what + ": run(MATERIAL)", x.run(StreamFusion.MATERIAL), StreamFusion.HEAP_FULL);
+        noResult(what + " after HEAP_FULL", x);
+    }
+
+    static void noResult(String what, StreamFusion x) {
+        due(what + ": outCount()", x.outCount(), 0);
+        due(what + ": cellsUsed()", x.cellsUsed(), 0);
+        for (int i = -1; i <= StreamFusion.OUT_CAP; i++) {
+            due(what + ": out(" + i + ")", x.out(i), 0);
+        }
+    }
+
     /** The shape of the stack from the bottom, a fragment as size/concat count/o for open or c for closed. */
     static void stack(String what, StreamFusion x, String... want) {
         due(what + ": stackDepth()", x.stackDepth(), want.length);
@@ -65,6 +90,27 @@ final class Check {
         String before = state(x);
         due(what, call.getAsInt(), want);
         due("the state after " + what, state(x), before);
+    }
+
+    /** N, which no getter tells alone: the sizes of all fragments. */
+    static int nodes(StreamFusion x) {
+        int nodes = 0;
+        for (int i = 0; i < x.stackDepth(); i++) {
+            nodes += x.fragment(i) / 16;
+        }
+        return nodes;
+    }
+
+    /** What the getters tell of the result alone. */
+    static String result(StreamFusion x) {
+        String told = state(x);
+        return told.substring(told.indexOf("cells"));
+    }
+
+    /** What the getters tell of the stack alone. */
+    static String shape(StreamFusion x) {
+        String told = state(x);
+        return told.substring(0, told.indexOf("cells"));
     }
 
     /** Pushes closed sources of one node each until the node count is 16. */
