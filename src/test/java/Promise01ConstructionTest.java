@@ -2,7 +2,9 @@
 final class Promise01ConstructionTest {
     public static void main(String[] args) {
         fresh();
+        heapAtBothEnds();
         everyHeapIsKeptOrClamped();
+        heapNeverChanges();
         buildingLeavesTheResult();
         refusalsChangeNothing();
         Check.end();
@@ -19,6 +21,37 @@ final class Promise01ConstructionTest {
             }
             Check.fillUp(x, 0);
         }
+    }
+
+    private static void heapAtBothEnds() {
+        heap(7, 8);
+        heap(8, 8);
+        heap(9, 9);
+        heap(255, 255);
+        heap(256, 256);
+        heap(257, 256);
+    }
+
+    private static void heapNeverChanges() {
+        StreamFusion x = new StreamFusion(20);
+        for (int round = 0; round < 3; round++) {
+            Check.buildCost(x, 20);
+            x.run(StreamFusion.FUSED);
+            Check.cost("cost 20 of 20", x, 20);
+            x.run(2);
+            x.map(-1, 0);
+            Check.cost("cost 20 of 20 after refusals", x, 20);
+            x.take(1);
+            Check.heapFull("cost 21 of 20", x);
+            x.run(StreamFusion.FUSED);
+            Check.heapFull("cost 21 of 20 after FUSED", x);
+            x.clear();
+        }
+        StreamFusion other = new StreamFusion(8);
+        Check.buildCost(x, 20);
+        Check.buildCost(other, 20);
+        Check.cost("cost 20 of 20 beside another object", x, 20);
+        Check.heapFull("cost 20 of 8", other);
     }
 
     private static void everyHeapIsKeptOrClamped() {

@@ -7,6 +7,7 @@ final class Promise04MapTest {
         table();
         TransformerChecks.opsInOrder("map", 8, (x, op) -> x.map(op, 0));
         TransformerChecks.shape("map", x -> x.map(0, 1));
+        TransformerChecks.below("map", x -> x.map(0, 1));
         Check.end();
     }
 

@@ -7,6 +7,7 @@ final class Promise05FilterTest {
         table();
         TransformerChecks.opsInOrder("filter", 6, (x, op) -> x.filter(op, 0));
         TransformerChecks.shape("filter", x -> x.filter(0, 1));
+        TransformerChecks.below("filter", x -> x.filter(0, 1));
         inner();
         Check.end();
     }

@@ -15,6 +15,7 @@ final class Promise06TakeTest {
         TransformerChecks.refusalsInOrder("take(1)", x -> x.take(1));
         TransformerChecks.refusalsInOrder("take(-1)", x -> x.take(-1));
         TransformerChecks.shape("take", x -> x.take(1));
+        TransformerChecks.below("take", x -> x.take(3));
         inner();
         Check.end();
     }

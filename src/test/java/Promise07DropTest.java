@@ -15,6 +15,7 @@ final class Promise07DropTest {
         TransformerChecks.refusalsInOrder("drop(1)", x -> x.drop(1));
         TransformerChecks.refusalsInOrder("drop(-1)", x -> x.drop(-1));
         TransformerChecks.shape("drop", x -> x.drop(1));
+        TransformerChecks.below("drop", x -> x.drop(3));
         inner();
         Check.end();
     }

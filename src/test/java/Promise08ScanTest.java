@@ -7,6 +7,7 @@ final class Promise08ScanTest {
         table();
         TransformerChecks.opsInOrder("scan", 6, (x, op) -> x.scan(op, 0));
         TransformerChecks.shape("scan", x -> x.scan(0, 1));
+        TransformerChecks.below("scan", x -> x.scan(0, 1));
         inner();
         Check.end();
     }

@@ -9,6 +9,9 @@ final class Promise09ZipTest {
         order();
         shape();
         inner();
+        fragmentsBelow();
+        lastNode();
+        refusedLeavesTheFragments();
         Check.end();
     }
 
@@ -143,5 +146,60 @@ final class Promise09ZipTest {
         y.concatMap();
         Check.list("zip of a free source and a range", y, -9, -8, -8, -7, -7);
         Check.cost("zip of a free source and a range", y, 3 + 6 + 6 + 5 + 5);
+    }
+
+    private static void fragmentsBelow() {
+        StreamFusion x = new StreamFusion(256);
+        x.inner(9, 9);
+        x.range(10, 3);
+        x.map(StreamFusion.F_MUL, 2);
+        x.range(1, 2);
+        x.range(5, 6);
+        Check.due("zip on four fragments", x.zip(StreamFusion.B_MUL), StreamFusion.OK);
+        Check.stack("zip on four fragments", x, "1/0/o", "2/0/c", "3/0/c");
+        Check.due("zip on three fragments", x.zip(StreamFusion.B_SUB), StreamFusion.OK);
+        Check.stack("zip on three fragments", x, "1/0/o", "6/0/c");
+        Check.due("zip on two fragments", x.zip(StreamFusion.B_SND), StreamFusion.OK);
+        Check.stack("zip on two fragments", x, "8/0/o");
+        x.clear();
+        x.range(10, 3);
+        x.map(StreamFusion.F_MUL, 2);
+        x.range(1, 2);
+        x.range(5, 6);
+        x.zip(StreamFusion.B_MUL);
+        x.zip(StreamFusion.B_SUB);
+        Check.both("the list below", x, 6 + 2 + 6 + 2 + 2, 20 - 5, 22 - 12);
+    }
+
+    private static void lastNode() {
+        StreamFusion x = new StreamFusion(256);
+        x.range(1, 2);
+        x.range(3, 2);
+        for (int n = 2; n < 15; n++) {
+            x.map(StreamFusion.F_ADD, 0);
+        }
+        Check.due("zip as node 16", x.zip(StreamFusion.B_ADD), StreamFusion.OK);
+        Check.stack("zip as node 16", x, "16/0/c");
+        Check.list("zip as node 16", x, 4, 6);
+        x.clear();
+        x.range(1, 2);
+        x.range(3, 2);
+        for (int n = 2; n < 16; n++) {
+            x.map(StreamFusion.F_ADD, 0);
+        }
+        Check.refused("zip as node 17", x, StreamFusion.FULL, () -> x.zip(StreamFusion.B_ADD));
+        Check.refused("zip(7) as node 17", x, StreamFusion.BAD_OP, () -> x.zip(7));
+    }
+
+    private static void refusedLeavesTheFragments() {
+        StreamFusion x = new StreamFusion(256);
+        x.range(1, 3);
+        Check.refused("zip of one", x, StreamFusion.UNDERFLOW, () -> x.zip(StreamFusion.B_ADD));
+        Check.both("the one fragment", x, 3, 1, 2, 3);
+        x.range(10, 3);
+        Check.refused("zip(7) of two", x, StreamFusion.BAD_OP, () -> x.zip(7));
+        Check.refused("zip(-1) of two", x, StreamFusion.BAD_OP, () -> x.zip(-1));
+        x.zip(StreamFusion.B_SUB);
+        Check.both("the two fragments", x, 9, -9, -9, -9);
     }
 }

@@ -5,7 +5,10 @@ final class Promise10ConcatMapTest {
         bindings();
         order();
         limits();
-        longest();
+        fragmentsBelow();
+        lastNode();
+        refusedLeavesTheFragments();
+        openIffOuterIsOpen();
         Check.end();
     }
 
@@ -171,31 +174,92 @@ final class Promise10ConcatMapTest {
         }
     }
 
-    private static void longest() {
-        int[] want = new int[216];
-        for (int i = 0; i < want.length; i++) {
-            want[i] = i % 6 + 3;
-        }
-        StreamFusion right = new StreamFusion(256);
-        right.range(1, 6);
-        right.range(2, 6);
-        right.range(3, 6);
-        right.concatMap();
-        right.concatMap();
-        Check.list("216 values, nested on the right", right, want);
-        Check.due("their cost", right.run(StreamFusion.MATERIAL), StreamFusion.HEAP_FULL);
+    private static void fragmentsBelow() {
+        StreamFusion x = new StreamFusion(256);
+        x.inner(9, 9);
+        x.take(3);
+        x.range(40, 6);
+        x.range(1, 3);
+        x.inner(0, 6);
+        Check.due("concatMap() on four fragments", x.concatMap(), StreamFusion.OK);
+        Check.stack("concatMap() on four fragments", x, "2/0/o", "1/0/c", "3/1/c");
+        Check.due("zip", x.zip(StreamFusion.B_SUB), StreamFusion.OK);
+        Check.due("zip", x.zip(StreamFusion.B_SND), StreamFusion.OK);
+        Check.stack("the source below stays free", x, "8/1/o");
+        x.clear();
+        x.range(40, 6);
+        x.range(1, 3);
+        x.inner(0, 6);
+        x.concatMap();
+        x.zip(StreamFusion.B_SUB);
+        Check.both("the list below", x, 6 + 3 + 6 + 6 + 6, 39, 39, 39, 40, 40, 40);
+    }
 
-        StreamFusion left = new StreamFusion(256);
-        left.range(1, 6);
-        left.range(2, 6);
-        left.concatMap();
-        left.range(3, 6);
-        left.concatMap();
-        Check.list("216 values, nested on the left", left, want);
-        for (int i = 0; i < 11; i++) {
-            left.map(StreamFusion.F_ADD, 0);
+    private static void lastNode() {
+        StreamFusion x = new StreamFusion(256);
+        x.range(1, 2);
+        x.inner(3, 2);
+        for (int n = 2; n < 15; n++) {
+            x.map(StreamFusion.F_ADD, 0);
         }
-        Check.stack("216 values in 16 nodes", left, "16/2/c");
-        Check.list("216 values through 16 nodes", left, want);
+        Check.due("concatMap() as node 16", x.concatMap(), StreamFusion.OK);
+        Check.stack("concatMap() as node 16", x, "16/1/c");
+        Check.list("concatMap() as node 16", x, 4, 5, 6);
+        x.clear();
+        x.range(1, 2);
+        x.inner(3, 2);
+        for (int n = 2; n < 16; n++) {
+            x.map(StreamFusion.F_ADD, 0);
+        }
+        Check.refused("concatMap() as node 17", x, StreamFusion.FULL, () -> x.concatMap());
+    }
+
+    private static void refusedLeavesTheFragments() {
+        StreamFusion x = new StreamFusion(256);
+        x.range(1, 3);
+        Check.refused("concatMap() of one", x, StreamFusion.UNDERFLOW, () -> x.concatMap());
+        Check.both("the one fragment", x, 3, 1, 2, 3);
+        x.inner(0, 6);
+        x.concatMap();
+        x.range(1, 2);
+        x.range(5, 3);
+        x.concatMap();
+        Check.refused("concatMap() of counts 1 and 1", x, StreamFusion.LIMIT, () -> x.concatMap());
+        Check.refused("concatMap() of counts 1 and 1 again", x, StreamFusion.LIMIT, () -> x.concatMap());
+        x.zip(StreamFusion.B_SUB);
+        Check.stack("the two fragments", x, "7/2/c");
+        Check.both("the two fragments", x, 3 + 6 + 6 + 2 + 6 + 6 + 6, -4, -4, -4, -2, -2, -2);
+
+        StreamFusion open = new StreamFusion(256);
+        open.range(1, 3);
+        open.inner(0, 6);
+        open.range(0, 2);
+        open.concatMap();
+        open.inner(0, 1);
+        open.concatMap();
+        Check.stack("an open top of count 2", open, "1/0/c", "5/2/o");
+        Check.refused("concatMap() over it", open, StreamFusion.LIMIT, () -> open.concatMap());
+        Check.stack("nothing is bound by it", open, "1/0/c", "5/2/o");
+    }
+
+    private static void openIffOuterIsOpen() {
+        for (int which = 0; which < 4; which++) {
+            boolean outer = which % 2 == 1;
+            boolean inner = which / 2 == 1;
+            StreamFusion x = new StreamFusion(256);
+            if (outer) {
+                x.inner(0, 1);
+            } else {
+                x.range(0, 1);
+            }
+            if (inner) {
+                x.inner(0, 1);
+            } else {
+                x.range(0, 1);
+            }
+            x.take(1);
+            Check.due("concatMap()", x.concatMap(), StreamFusion.OK);
+            Check.stack("O open: " + outer + ", I open: " + inner, x, outer ? "4/1/o" : "4/1/c");
+        }
     }
 }

@@ -1,89 +1,146 @@
-/** Promise 14: cellsUsed, with the material cost of every kind of node. */
+/** Promise 14: cellsUsed. */
 final class Promise14CellsUsedTest {
     public static void main(String[] args) {
-        costOfEachNode();
-        everyInnerInstanceCounts();
-        setByTheLastRun();
+        fresh();
+        afterMaterial();
+        afterFused();
+        afterHeapFull();
+        afterRefusedRuns();
+        afterClear();
+        whileBuilding();
+        nothingChanges();
         Check.end();
     }
 
-    private static void costOfEachNode() {
-        StreamFusion x = new StreamFusion(256);
-        x.range(1, 6);
-        Check.cost("range", x, 6);
-        x.map(StreamFusion.F_ADD, 0);
-        Check.cost("map", x, 12);
-        x.filter(StreamFusion.P_EVEN, 0);
-        Check.cost("filter", x, 15);
-        x.scan(StreamFusion.B_ADD, 0);
-        Check.cost("scan", x, 18);
-        x.drop(1);
-        Check.cost("drop", x, 20);
-        x.take(1);
-        Check.cost("take", x, 21);
-        x.range(0, 5);
-        x.zip(StreamFusion.B_FST);
-        Check.cost("zip", x, 21 + 5 + 1);
-        x.range(0, 4);
-        x.concatMap();
-        Check.cost("concatMap", x, 27 + 4 + 4);
-        x.take(0);
-        Check.cost("take(0)", x, 35);
+    private static void is(String what, StreamFusion x, int want) {
+        Check.due("cellsUsed() " + what, x.cellsUsed(), want);
+        Check.due("cellsUsed() again " + what, x.cellsUsed(), want);
     }
 
-    private static void everyInnerInstanceCounts() {
+    private static void fresh() {
         StreamFusion x = new StreamFusion(256);
-        x.range(1, 3);
-        x.range(0, 5);
-        x.map(StreamFusion.F_ADD, 1);
-        x.take(1);
-        x.concatMap();
-        Check.cost("a closed inner part", x, 3 + 3 * (5 + 5 + 1) + 3);
-
-        StreamFusion y = new StreamFusion(256);
-        y.range(1, 3);
-        y.inner(0, 3);
-        y.inner(0, 3);
-        y.drop(1);
-        y.concatMap();
-        y.concatMap();
-        Check.list("two levels", y, 3, 4, 5, 4, 5);
-        Check.cost("two levels", y, 3 + 6 + 10 + 5 + 5 + 5);
-
-        StreamFusion cut = new StreamFusion(256);
-        cut.range(1, 3);
-        cut.range(0, 5);
-        cut.concatMap();
-        cut.range(9, 1);
-        cut.zip(StreamFusion.B_SND);
-        Check.cost("a zip that needs one element counts all", cut, 3 + 15 + 15 + 1 + 1);
+        is("when fresh", x, 0);
+        x.range(0, 6);
+        is("before the first run", x, 0);
     }
 
-    private static void setByTheLastRun() {
+    private static void afterMaterial() {
         StreamFusion x = new StreamFusion(9);
-        Check.due("fresh", x.cellsUsed(), 0);
+        x.range(0, 0);
         x.run(StreamFusion.MATERIAL);
-        Check.due("after BAD_SHAPE", x.cellsUsed(), 0);
-        x.range(0, 4);
-        Check.cost("range", x, 4);
-        x.run(9);
-        Check.due("after BAD_MODE", x.cellsUsed(), 4);
-        x.take(4);
-        Check.due("after building", x.cellsUsed(), 4);
-        x.inner(0, 1);
-        x.run(StreamFusion.MATERIAL);
-        Check.due("after BAD_SHAPE", x.cellsUsed(), 4);
+        is("of an empty list", x, 0);
         x.clear();
-        Check.due("after clear", x.cellsUsed(), 0);
+        x.range(0, 4);
+        x.run(StreamFusion.MATERIAL);
+        is("of 4", x, 4);
+        x.take(4);
+        x.run(StreamFusion.MATERIAL);
+        is("of 4 + 4", x, 8);
+        x.take(1);
+        x.run(StreamFusion.MATERIAL);
+        is("of the whole heap", x, 9);
+        x.take(0);
+        x.run(StreamFusion.MATERIAL);
+        is("of the whole heap with an empty list", x, 9);
+        Check.due("outCount()", x.outCount(), 0);
+        x.clear();
+        x.range(0, 2);
+        x.run(StreamFusion.MATERIAL);
+        is("of less than before", x, 2);
+    }
+
+    private static void afterFused() {
+        StreamFusion x = new StreamFusion(9);
+        x.range(0, 4);
+        x.run(StreamFusion.FUSED);
+        is("after FUSED", x, 0);
+        x.run(StreamFusion.MATERIAL);
+        x.run(StreamFusion.FUSED);
+        is("after FUSED behind MATERIAL", x, 0);
+        x.run(StreamFusion.MATERIAL);
+        is("after MATERIAL behind FUSED", x, 4);
+    }
+
+    private static void afterHeapFull() {
+        StreamFusion x = new StreamFusion(9);
         x.range(0, 4);
         x.take(4);
-        Check.cost("range and take", x, 8);
-        x.run(StreamFusion.FUSED);
-        Check.due("after FUSED", x.cellsUsed(), 0);
         x.run(StreamFusion.MATERIAL);
+        is("of 4 + 4", x, 8);
         x.take(2);
-        Check.due("after building", x.cellsUsed(), 8);
         Check.due("run(MATERIAL)", x.run(StreamFusion.MATERIAL), StreamFusion.HEAP_FULL);
-        Check.due("after HEAP_FULL", x.cellsUsed(), 0);
+        is("after HEAP_FULL", x, 0);
+        Check.due("run(MATERIAL)", x.run(StreamFusion.MATERIAL), StreamFusion.HEAP_FULL);
+        is("after HEAP_FULL again", x, 0);
+    }
+
+    private static void afterRefusedRuns() {
+        StreamFusion x = new StreamFusion(9);
+        x.run(StreamFusion.MATERIAL);
+        is("after BAD_SHAPE when fresh", x, 0);
+        x.run(2);
+        is("after BAD_MODE when fresh", x, 0);
+        x.range(0, 4);
+        x.run(StreamFusion.MATERIAL);
+        x.run(9);
+        is("after BAD_MODE behind MATERIAL", x, 4);
+        x.inner(0, 1);
+        x.run(StreamFusion.FUSED);
+        is("after BAD_SHAPE of FUSED behind MATERIAL", x, 4);
+        x.run(StreamFusion.MATERIAL);
+        is("after BAD_SHAPE of MATERIAL behind MATERIAL", x, 4);
+        x.zip(StreamFusion.B_FST);
+        x.run(StreamFusion.MATERIAL);
+        is("after BAD_SHAPE of an open fragment behind MATERIAL", x, 4);
+        x.clear();
+        x.range(0, 4);
+        x.run(StreamFusion.FUSED);
+        x.run(-1);
+        is("after BAD_MODE behind FUSED", x, 0);
+        x.range(0, 1);
+        x.run(StreamFusion.MATERIAL);
+        is("after BAD_SHAPE behind FUSED", x, 0);
+        x.clear();
+        x.range(0, 6);
+        x.take(6);
+        x.run(StreamFusion.MATERIAL);
+        x.run(-1);
+        is("after BAD_MODE behind HEAP_FULL", x, 0);
+        x.range(0, 1);
+        x.run(StreamFusion.MATERIAL);
+        is("after BAD_SHAPE behind HEAP_FULL", x, 0);
+    }
+
+    private static void afterClear() {
+        StreamFusion x = new StreamFusion(9);
+        x.range(0, 4);
+        x.run(StreamFusion.MATERIAL);
+        x.clear();
+        is("after clear()", x, 0);
+        x.range(0, 4);
+        is("after clear() and building", x, 0);
+    }
+
+    private static void whileBuilding() {
+        StreamFusion x = new StreamFusion(9);
+        x.range(0, 4);
+        x.run(StreamFusion.MATERIAL);
+        x.take(4);
+        is("after take", x, 4);
+        x.range(0, 6);
+        is("after range", x, 4);
+        x.zip(StreamFusion.B_ADD);
+        is("after zip", x, 4);
+        x.zip(StreamFusion.B_ADD);
+        is("after a refused zip", x, 4);
+    }
+
+    private static void nothingChanges() {
+        StreamFusion x = new StreamFusion(9);
+        x.range(3, 4);
+        x.run(StreamFusion.MATERIAL);
+        String before = Check.state(x);
+        x.cellsUsed();
+        Check.due("the state after cellsUsed()", Check.state(x), before);
     }
 }

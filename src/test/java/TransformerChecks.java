@@ -43,11 +43,33 @@ final class TransformerChecks {
         x.concatMap();
         Check.due(name + " of a concatMap", call.applyAsInt(x), StreamFusion.OK);
         Check.stack(name + " of a concatMap", x, "1/0/o", "5/1/c");
+        x.concatMap();
+        Check.due(name + " of an open concatMap", call.applyAsInt(x), StreamFusion.OK);
+        Check.stack(name + " of an open concatMap", x, "8/2/o");
+        for (int size = 9; size <= StreamFusion.MAX_NODES; size++) {
+            Check.due(name + " as node " + size, call.applyAsInt(x), StreamFusion.OK);
+            Check.stack(name + " as node " + size, x, size + "/2/o");
+        }
+        Check.refused(name + " as node 17", x, StreamFusion.FULL, () -> call.applyAsInt(x));
 
         StreamFusion e = new StreamFusion(256);
         e.range(4, 0);
         Check.due(name + " of an empty list", call.applyAsInt(e), StreamFusion.OK);
         Check.list(name + " of an empty list", e);
         Check.cost(name + " of an empty list", e, 0);
+    }
+
+    /** The fragments below the top keep their shapes and their lists; of 0..5, the call must leave three or more. */
+    static void below(String name, ToIntFunction<StreamFusion> call) {
+        StreamFusion x = new StreamFusion(256);
+        x.range(7, 2);
+        x.map(StreamFusion.F_MUL, 3);
+        x.range(50, 3);
+        x.range(0, 6);
+        Check.due(name + " on three fragments", call.applyAsInt(x), StreamFusion.OK);
+        Check.stack(name + " on three fragments", x, "2/0/c", "1/0/c", "2/0/c");
+        x.zip(StreamFusion.B_FST);
+        x.zip(StreamFusion.B_SUB);
+        Check.list("the lists below " + name, x, 21 - 50, 24 - 51);
     }
 }
