@@ -80,7 +80,12 @@ final class Check {
         told.append("depth ").append(x.stackDepth()).append(" cells ").append(x.cellsUsed());
         told.append(" count ").append(x.outCount()).append(':');
         for (int i = -1; i <= StreamFusion.OUT_CAP; i++) {
-            told.append(' ').append(x.out(i));
+            boolean inside = i >= 0 && i < x.outCount();
+            if (inside) {
+                told.append(' ').append(x.out(i));
+            } else if (x.out(i) != 0) {
+                told.append(" and outside out(").append(i).append(") ").append(x.out(i));
+            }
         }
         return told.toString();
     }

@@ -250,6 +250,7 @@ final class Model {
         };
     }
 
+    /** In the words of Check.state. */
     String state() {
         StringBuilder told = new StringBuilder();
         for (int i = -1; i <= 16; i++) {
@@ -259,9 +260,7 @@ final class Model {
         }
         told.append("depth ").append(stack.size()).append(" cells ").append(cells);
         told.append(" count ").append(result.size()).append(':');
-        for (int i = -1; i <= 256; i++) {
-            told.append(' ').append(i >= 0 && i < result.size() ? result.get(i) : 0);
-        }
+        result.forEach(value -> told.append(' ').append(value));
         return told.toString();
     }
 }

@@ -12,6 +12,7 @@ final class Promise11ClearTest {
         openFragments();
         heapIsKept();
         nothingOfTheOldPipelineStays();
+        everyShapeAfterEveryOther();
         Check.end();
     }
 
@@ -143,5 +144,26 @@ final class Promise11ClearTest {
         x.range(1, 1);
         Check.due("the concat counts begin anew", x.concatMap(), StreamFusion.OK);
         Check.list("a new pipeline", x, 1, 1, 1, 1, 1);
+    }
+
+    /** What is built and run after clear() is as on a new object, whatever was there before. */
+    private static void everyShapeAfterEveryOther() {
+        for (Shape before : Shape.ALL) {
+            for (Shape after : Shape.ALL) {
+                StreamFusion x = new StreamFusion(60);
+                StreamFusion unused = new StreamFusion(60);
+                before.build().accept(x);
+                x.run(StreamFusion.FUSED);
+                x.clear();
+                after.build().accept(x);
+                after.build().accept(unused);
+                String what = after.name() + " after " + before.name();
+                Check.due("the stack of " + what, Check.state(x), Check.state(unused));
+                Check.due("run(FUSED) of " + what, x.run(StreamFusion.FUSED), unused.run(StreamFusion.FUSED));
+                Check.due("the list of " + what, Check.state(x), Check.state(unused));
+                Check.due("run(MATERIAL) of " + what, x.run(StreamFusion.MATERIAL), unused.run(StreamFusion.MATERIAL));
+                Check.due("the cost of " + what, Check.state(x), Check.state(unused));
+            }
+        }
     }
 }

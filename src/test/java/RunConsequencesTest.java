@@ -1,5 +1,3 @@
-import java.util.function.Consumer;
-
 /**
  * The consequences at the end of promise 12: two objects in the same state, one run FUSED and the
  * other MATERIAL, over many shapes, heaps and earlier results.
@@ -8,110 +6,8 @@ final class RunConsequencesTest {
     private static final int[] HEAPS = {8, 9, 12, 13, 20, 40, 77, 78, 90, 150, 256};
     private static final int[] answers = new int[8];
 
-    private record Shape(String name, Consumer<StreamFusion> build) {
-    }
-
-    private static final Shape[] SHAPES = {
-        new Shape("nothing", x -> { }),
-        new Shape("an empty range", x -> x.range(0, 0)),
-        new Shape("a range", x -> x.range(-3, 6)),
-        new Shape("an open source", x -> x.inner(0, 3)),
-        new Shape("two fragments", x -> {
-            x.range(0, 1);
-            x.range(0, 1);
-        }),
-        new Shape("two fragments, one open", x -> {
-            x.range(0, 1);
-            x.inner(0, 1);
-        }),
-        new Shape("a map", x -> {
-            x.range(1, 6);
-            x.map(StreamFusion.F_SQ, 0);
-        }),
-        new Shape("a filter of none", x -> {
-            x.range(1, 6);
-            x.filter(StreamFusion.P_DIVBY, 0);
-        }),
-        new Shape("a take and a drop", x -> {
-            x.range(1, 6);
-            x.take(4);
-            x.drop(3);
-        }),
-        new Shape("a scan", x -> {
-            x.range(Integer.MAX_VALUE - 2, 5);
-            x.scan(StreamFusion.B_ADD, 1);
-        }),
-        new Shape("a zip", x -> {
-            x.range(1, 6);
-            x.range(10, 4);
-            x.zip(StreamFusion.B_MUL);
-        }),
-        new Shape("an open zip", x -> {
-            x.range(1, 6);
-            x.inner(10, 4);
-            x.zip(StreamFusion.B_MUL);
-        }),
-        new Shape("a concatMap", x -> {
-            x.range(1, 6);
-            x.inner(0, 6);
-            x.concatMap();
-        }),
-        new Shape("a concatMap of nothing", x -> {
-            x.range(1, 6);
-            x.take(0);
-            x.range(0, 6);
-            x.concatMap();
-        }),
-        new Shape("an open concatMap", x -> {
-            x.inner(1, 6);
-            x.inner(0, 6);
-            x.concatMap();
-        }),
-        new Shape("36 values", x -> {
-            x.range(1, 6);
-            x.range(1, 6);
-            x.concatMap();
-        }),
-        new Shape("a concatMap in O", x -> {
-            x.range(1, 3);
-            x.inner(0, 6);
-            x.concatMap();
-            x.inner(5, 2);
-            x.concatMap();
-        }),
-        new Shape("a concatMap in I", x -> {
-            x.range(1, 3);
-            x.inner(0, 6);
-            x.inner(5, 2);
-            x.concatMap();
-            x.concatMap();
-        }),
-        new Shape("216 values", x -> {
-            x.range(1, 6);
-            x.range(1, 6);
-            x.range(1, 6);
-            x.concatMap();
-            x.concatMap();
-        }),
-        new Shape("one of 216 values", x -> {
-            x.range(1, 6);
-            x.range(1, 6);
-            x.range(1, 6);
-            x.concatMap();
-            x.concatMap();
-            x.drop(215);
-        }),
-        new Shape("16 nodes", x -> {
-            x.range(1, 6);
-            for (int n = 1; n < 16; n++) {
-                x.map(StreamFusion.F_ADD, n);
-            }
-        }),
-        new Shape("16 fragments", x -> Check.fillUp(x, 0)),
-    };
-
     public static void main(String[] args) {
-        for (Shape shape : SHAPES) {
+        for (Shape shape : Shape.ALL) {
             for (int heap : HEAPS) {
                 for (int earlier = 0; earlier < 4; earlier++) {
                     look(shape, heap, earlier);
